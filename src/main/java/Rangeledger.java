@@ -16,6 +16,9 @@ public final class Rangeledger {
     private static final int GREATEST_SIFT = 99;
     private static final int TWICE_LIMIT = 500;
 
+    /** Above the weight of each key in each order. */
+    private static final int WEIGHT_LIMIT = 1024;
+
     private static final int LOWER = 0;
     private static final int FLOOR = 1;
     private static final int CEILING = 2;
@@ -479,7 +482,7 @@ public final class Rangeledger {
                 return false;
             }
             for (int other = 0; other < books.length; other++) {
-                if (!areSoundTogether(books[one], books[other])) {
+                if (books[one].isLike(books[other]) && !books[one].hasSameTotals(books[other])) {
                     return false;
                 }
             }
@@ -517,7 +520,7 @@ public final class Rangeledger {
             digest = mixed(digest, near(book, DIGEST_KEY, what));
         }
         for (int other = 0; other < books.length; other++) {
-            digest = mixed(digest, same(book, other) ? 1 : 0);
+            digest = mixed(digest, mixedIn.isLike(books[other]) ? 1 : 0);
         }
         return digest;
     }
@@ -631,13 +634,6 @@ public final class Rangeledger {
         return count;
     }
 
-    private static boolean areSoundTogether(Book one, Book other) {
-        if (!one.isLike(other)) {
-            return true;
-        }
-        return one.size() == other.size() && one.sum(0, one.size()) == other.sum(0, other.size());
-    }
-
     private void checkViewIsFree() throws IllegalStateException {
         if (openViews() >= views.length) {
             throw new IllegalStateException("4 views are open");
@@ -718,33 +714,28 @@ public final class Rangeledger {
             return weight(key) < weight(other);
         }
 
-        /** A number that rises by the order of this book. */
-        private int weight(int key) {
+        /** A number from 0 on that rises by the order of this book; no two keys have the same. */
+        int weight(int key) {
             switch (order) {
                 case 0:
                     return key;
                 case 1:
-                    return key % 2 == 0 ? -key : KEY_LIMIT - key;
+                    return key % 2 == 0 ? KEY_LIMIT - key : 2 * KEY_LIMIT - key;
                 default:
-                    return nameWeight(key);
+                    // Names filled up to four letters compare as numbers; of like ones the shorter name is ahead.
+                    int letters = key < 4 ? 1 : key < 16 ? 2 : key < 64 ? 3 : 4;
+                    int filledUp = key << 2 * (4 - letters);
+                    return filledUp * 4 + letters - 1;
             }
         }
 
-        /** Names filled up to four letters compare as numbers; the length then puts the beginning of a name ahead of it. */
-        private static int nameWeight(int key) {
-            int letters = key < 4 ? 1 : key < 16 ? 2 : key < 64 ? 3 : 4;
-            int filledUp = key << 2 * (4 - letters);
-            return filledUp * 4 + letters - 1;
-        }
-
-        /** How many keys are ahead of this one. */
-        int placeOf(int key) {
-            int sought = weight(key);
+        /** How many keys have a smaller weight. */
+        int placeOfWeight(int weight) {
             int low = 0;
             int high = size;
             for (int round = 0; round < KEY_LIMIT && low < high; round++) {
                 int middle = (low + high) / 2;
-                if (weight(keys[middle]) < sought) {
+                if (weight(keys[middle]) < weight) {
                     low = middle + 1;
                 } else {
                     high = middle;
@@ -753,10 +744,14 @@ public final class Rangeledger {
             return low;
         }
 
+        /** How many keys are ahead of this one. */
+        int placeOf(int key) {
+            return placeOfWeight(weight(key));
+        }
+
         /** How many keys are not behind this one. */
         int placeBehind(int key) {
-            int place = placeOf(key);
-            return keyAt(place) == key ? place + 1 : place;
+            return placeOfWeight(weight(key) + 1);
         }
 
         private boolean isPlace(int place) {
@@ -772,11 +767,12 @@ public final class Rangeledger {
         }
 
         boolean holds(int key) {
-            return key != NONE && keyAt(placeOf(key)) == key;
+            return valueOf(key) != NONE;
         }
 
         int valueOf(int key) {
-            return holds(key) ? valueAt(placeOf(key)) : NONE;
+            int place = placeOf(key);
+            return keyAt(place) == key ? valueAt(place) : NONE;
         }
 
         /** The first place with this value, or NONE. */
@@ -860,10 +856,12 @@ public final class Rangeledger {
 
         /** Strikes the key and tells the value that it had, or NONE. */
         int removeKey(int key) {
-            int before = valueOf(key);
-            if (before != NONE) {
-                removeAt(placeOf(key));
+            int place = placeOf(key);
+            if (keyAt(place) != key) {
+                return NONE;
             }
+            int before = valueAt(place);
+            removeRange(place, place + 1);
             return before;
         }
 
@@ -987,6 +985,10 @@ public final class Rangeledger {
             return true;
         }
 
+        boolean hasSameTotals(Book other) {
+            return size == other.size() && sum(0, size) == other.sum(0, other.size());
+        }
+
         /** Whether each key is behind the one ahead, that one is its LOWER, and its PLACE is right. */
         boolean isInOrder() {
             for (int place = 0; place < size; place++) {
@@ -1048,12 +1050,21 @@ public final class Rangeledger {
         private final boolean isLowerIn;
         private final boolean isUpperIn;
 
+        /** The keys within are those with a weight from the first of these on, below the second. */
+        private final int startWeight;
+        private final int endWeight;
+
         View(Book book, int lower, boolean isLowerIn, int upper, boolean isUpperIn) {
             this.book = book;
             this.lower = lower;
             this.isLowerIn = isLowerIn;
             this.upper = upper;
             this.isUpperIn = isUpperIn;
+            // A book gets another order only by copy(), which shuts its views and ends its walk: the weights stay right.
+            int start = lower == NONE ? 0 : book.weight(lower) + (isLowerIn ? 0 : 1);
+            int end = upper == NONE ? WEIGHT_LIMIT : book.weight(upper) + (isUpperIn ? 1 : 0);
+            startWeight = start;
+            endWeight = Math.max(start, end);
         }
 
         Book book() {
@@ -1078,20 +1089,12 @@ public final class Rangeledger {
 
         /** The place of the first pair that it shows. */
         int start() {
-            if (lower == NONE) {
-                return 0;
-            }
-            return isLowerIn ? book.placeOf(lower) : book.placeBehind(lower);
+            return book.placeOfWeight(startWeight);
         }
 
         /** The place behind that of the last pair that it shows. */
         int end() {
-            if (upper == NONE) {
-                return book.size();
-            }
-            int end = isUpperIn ? book.placeBehind(upper) : book.placeOf(upper);
-            // Both bounds may be one key that is in the book but not in the view.
-            return Math.max(start(), end);
+            return book.placeOfWeight(endWeight);
         }
 
         int size() {
@@ -1099,10 +1102,8 @@ public final class Rangeledger {
         }
 
         boolean isWithin(int key) {
-            if (lower != NONE && (book.isAhead(key, lower) || key == lower && !isLowerIn)) {
-                return false;
-            }
-            return upper == NONE || !book.isAhead(upper, key) && (key != upper || isUpperIn);
+            int weight = book.weight(key);
+            return weight >= startWeight && weight < endWeight;
         }
 
         /** Whether it shows just the pairs whose keys are within. */

@@ -1,11 +1,16 @@
 import java.lang.reflect.InvocationTargetException;
 import java.lang.reflect.Method;
+import java.lang.reflect.Modifier;
+import java.util.HashMap;
+import java.util.Map;
 
 /**
  * Runs of calls, a call a line: "put(0, 5, 7) = NONE" tells the answer that is due, "put(3, 5, 7) ! IndexOutOfBoundsException"
  * the exception. A line that begins with # is a comment. Of a refused call the digest must be the same before and after.
  */
 final class Runs {
+
+    private static final Map<String, Method> METHODS = publicMethods();
 
     private int asked;
     private int wrong;
@@ -48,7 +53,10 @@ final class Runs {
     }
 
     private static String answer(Rangeledger ledger, String name, String[] told) {
-        Method method = method(name);
+        Method method = METHODS.get(name);
+        if (method == null) {
+            throw new IllegalStateException("no method " + name);
+        }
         Object[] arguments = new Object[told.length];
         for (int i = 0; i < told.length; i++) {
             boolean isInt = method.getParameterTypes()[i] == int.class;
@@ -63,13 +71,14 @@ final class Runs {
         }
     }
 
-    private static Method method(String name) {
+    private static Map<String, Method> publicMethods() {
+        Map<String, Method> methods = new HashMap<>();
         for (Method method : Rangeledger.class.getDeclaredMethods()) {
-            if (method.getName().equals(name)) {
-                return method;
+            if (Modifier.isPublic(method.getModifiers())) {
+                methods.put(method.getName(), method);
             }
         }
-        throw new IllegalStateException("no method " + name);
+        return methods;
     }
 
     void check(String what, Object got, Object due) {
