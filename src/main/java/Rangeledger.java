@@ -19,10 +19,10 @@ public final class Rangeledger {
     /** Above the weight of each key in each order. */
     private static final int WEIGHT_LIMIT = 1024;
 
+    /** What near() asks for; the last kind, 3, is HIGHER. */
     private static final int LOWER = 0;
     private static final int FLOOR = 1;
     private static final int CEILING = 2;
-    private static final int HIGHER = 3;
     private static final int NEAR_KINDS = 4;
 
     private static final int GREATEST_OF_LEDGER = 6;
@@ -174,7 +174,6 @@ public final class Rangeledger {
         Book source = bookAt(from);
         Book written = bookAt(to);
         checkUnlike(from, to);
-        written.touch();
         written.becomeLike(source);
         if (ongoing != null && ongoing.book() == written) {
             ongoing = null;

@@ -21,6 +21,7 @@ public final class AsksTest {
         ofViews();
         viewNears();
         ledgers();
+        sound();
         digests();
         refusals();
         RUNS.end();
@@ -117,6 +118,27 @@ public final class AsksTest {
             near(0, 50, 1) = NONE
             near(0, 50, 7) = NONE
             """);
+        RUNS.run("promise 43, keys side by side", """
+            put(0, 4, 40) = NONE
+            put(0, 5, 50) = NONE
+            put(0, 6, 60) = NONE
+            near(0, 5, 0) = 4
+            near(0, 5, 3) = 6
+            near(0, 4, 3) = 5
+            near(0, 6, 0) = 5
+            near(0, 4, 7) = 50
+            near(0, 7, 1) = 6
+            near(0, 3, 2) = 4
+            put(2, 4, 40) = NONE
+            put(2, 16, 50) = NONE
+            put(2, 64, 60) = NONE
+            put(2, 65, 60) = NONE
+            near(2, 16, 0) = 4
+            near(2, 16, 3) = 64
+            near(2, 64, 3) = 65
+            near(2, 1, 3) = 4
+            near(2, 17, 1) = 65
+            """);
     }
 
     private static void places() {
@@ -158,6 +180,24 @@ public final class AsksTest {
             same(2, 1) = false
             strike(2, 3) = 5
             same(1, 2) = false
+            put(0, 3, 3) = NONE
+            put(0, 5, 5) = NONE
+            clear(1) = 4
+            put(1, 3, 3) = NONE
+            put(1, 5, 6) = NONE
+            same(0, 1) = false
+            same(1, 0) = false
+            put(1, 5, 5) = 6
+            put(1, 3, 4) = 3
+            same(0, 1) = false
+            same(1, 0) = false
+            put(1, 3, 3) = 4
+            same(0, 1) = true
+            strike(1, 3) = 3
+            put(1, 1, 3) = NONE
+            same(0, 1) = false
+            same(1, 0) = false
+            clear(0) = 2
             put(0, 99, -9999) = NONE
             row(0) = {99=-9999}
             """);
@@ -263,6 +303,28 @@ public final class AsksTest {
             """);
     }
 
+    private static void sound() {
+        RUNS.run("promise 53", PAIRS + """
+            isSound() = true
+            sub(1, 4, true, 5, false) = 0
+            sub(1, 4, false, 3, false) = 1
+            sub(1, 4, true, 4, false) = 2
+            head(1, 6, true) = 3
+            isSound() = true
+            viewRow(0) = {4=0}
+            viewRow(1) = {5=-7}
+            pour(1, 2) = 4
+            isSound() = true
+            copy(1, 0) = 0
+            isSound() = true
+            shut(3) = 1
+            tail(1, 6, true) = 3
+            isSound() = true
+            viewClear(1) = 1
+            isSound() = true
+            """);
+    }
+
     /** The digest, computed from what the other calls answer. */
     static long digestOf(Rangeledger ledger) {
         java.util.ArrayList<Long> told = new java.util.ArrayList<>();
@@ -322,11 +384,14 @@ public final class AsksTest {
             put(2, 1, -10) = NONE
             put(2, 2, 100) = NONE
             put(2, 3, 9) = NONE
+            put(0, 0, 0) = NONE
+            put(0, 10, 999) = NONE
+            put(0, 11, -99) = NONE
             head(0, 50, false) = 0
             head(0, 50, true) = 1
             tail(2, 1, true) = 2
             sub(1, 99, true, 1, true) = 3
-            shut(1) = 3
+            shut(1) = 6
             walk(1) = 4
             step() = 8
             keep(2, true) = 52
