@@ -732,6 +732,7 @@ public final class Rangeledger {
         int placeOfWeight(int weight) {
             int low = 0;
             int high = size;
+            // Each round halves what is left; they are counted so that an end can be seen.
             for (int round = 0; round < KEY_LIMIT && low < high; round++) {
                 int middle = (low + high) / 2;
                 if (weight(keys[middle]) < weight) {
