@@ -7,19 +7,13 @@ public final class ModelTest {
     private static final int CALLS = 400;
     private static final int DIGEST_EVERY = 4;
 
-    /** The calls with their arguments: b book, w view, k key, v value, i is-, r by of raise(), s by of sift(), digits: 0 to that. */
-    private static final String[] CALLS_TOLD = {
-        "put bkv", "put bkv", "put bkv", "put bkv", "putAbsent bkv", "replace bkv", "swap bkvv", "strike bk", "strikePair bkv",
-        "merge bkv", "grow bk", "halve bk", "twice bk", "poll bi", "raise br", "sift bs", "strikeValue bv", "clear b",
-        "pour bb", "copy bb", "thin bbi", "head bki", "tail bki", "sub bkiki", "sub bkiki", "part wkiki", "part wkiki", "shut w",
-        "viewPut wkv", "viewPut wkv", "viewStrike wk", "viewMerge wkv", "viewPoll wi", "viewClear w", "walk b", "viewWalk w",
-        "step ", "step ", "step ", "step ", "write v", "write v", "drop ", "drop ", "keep bi", "brand v", "knock ",
-        "get bk", "getOr bkv", "has bk", "hasValue bv", "ofBook b8", "near bk7", "place bk", "at bp", "row b", "same bb",
-        "viewGet wk", "ofView w8", "viewNear wk3", "viewRow w", "ledger 6", "isSound ",
+    /** Calls that are drawn more often than others, so that much goes on in views and walks. */
+    private static final String[] OFTEN = {
+        "put bkv", "put bkv", "put bkv", "sub bkiki", "part wkiki", "viewPut wkv", "step ", "step ", "step ", "write v", "drop ",
     };
 
     /** Calls that empty a book at once are drawn less often, so that books fill. */
-    private static final String RARE = "clear sift copy thin raise viewClear";
+    private static final String RARE = " clear sift copy thin raise viewClear ";
 
     private final Random random;
     private final int keys;
@@ -42,38 +36,26 @@ public final class ModelTest {
     }
 
     private void compare(Runs runs, int seed) {
-        Rangeledger ledger = new Rangeledger();
-        Model model = new Model();
+        Twins twins = new Twins(runs, "seed " + seed);
         for (int call = 0; call < CALLS; call++) {
-            String[] told = drawn().split(" ", -1);
-            int[] arguments = new int[told[1].length()];
-            StringBuilder text = new StringBuilder();
+            String told = drawn();
+            String kinds = Calls.kinds(told);
+            int[] arguments = new int[kinds.length()];
             for (int i = 0; i < arguments.length; i++) {
-                char kind = told[1].charAt(i);
-                arguments[i] = argument(kind);
-                text.append(i == 0 ? "" : ", ").append(kind == 'i' ? String.valueOf(arguments[i] == 1) : arguments[i]);
+                arguments[i] = argument(kinds.charAt(i));
             }
-            String line = told[0] + "(" + text + ")";
-            runs.check("seed " + seed + ", call " + call + ": " + line, Runs.answer(ledger, line), due(model, told[0], arguments));
+            twins.call(told, arguments);
             if (call % DIGEST_EVERY == 0) {
-                runs.check("seed " + seed + ", digest behind call " + call, Runs.answer(ledger, "digest()"),
-                    due(model, "digest", new int[0]));
+                twins.digest();
             }
         }
-        runs.check("seed " + seed + ", sound at the end", ledger.isSound(), true);
-    }
-
-    private static String due(Model model, String name, int[] arguments) {
-        try {
-            return String.valueOf(model.ask(name, arguments));
-        } catch (IndexOutOfBoundsException | IllegalArgumentException | IllegalStateException e) {
-            return "! " + e.getClass().getSimpleName();
-        }
+        twins.call("isSound ");
     }
 
     private String drawn() {
-        String told = CALLS_TOLD[random.nextInt(CALLS_TOLD.length)];
-        boolean isRare = RARE.contains(told.substring(0, told.indexOf(' ')));
+        int drawn = random.nextInt(Calls.TOLD.length + OFTEN.length);
+        String told = drawn < OFTEN.length ? OFTEN[drawn] : Calls.TOLD[drawn - OFTEN.length];
+        boolean isRare = RARE.contains(" " + Calls.name(told) + " ");
         return isRare && random.nextInt(isCalm ? 40 : 3) > 0 ? "put bkv" : told;
     }
 

@@ -12,16 +12,24 @@ final class Runs {
 
     private static final Map<String, Method> METHODS = publicMethods();
 
+    /** Nothing is promised about an object after so many calls. */
+    private static final int MOST_CALLS = 512;
+
     private int asked;
     private int wrong;
 
+    /** The calls on the object of the newest run. */
+    private int calls;
+
     /** Runs the lines on a new object, which is handed back for more. */
     Rangeledger run(String name, String lines) {
+        calls = 0;
         Rangeledger ledger = new Rangeledger();
         goOn(ledger, name, lines);
         return ledger;
     }
 
+    /** Goes on with the object of the newest run. */
     void goOn(Rangeledger ledger, String name, String lines) {
         for (String line : lines.split("\n")) {
             String told = line.strip();
@@ -29,6 +37,16 @@ final class Runs {
                 line(ledger, name, told);
             }
         }
+        check(name + ": no more calls than the document promises", calls <= MOST_CALLS, true);
+    }
+
+    /** The lines that give a book all keys, each with itself as its value. */
+    static String full(int book) {
+        StringBuilder lines = new StringBuilder();
+        for (int key = 0; key < 100; key++) {
+            lines.append("put(" + book + ", " + key + ", " + key + ") = NONE\n");
+        }
+        return lines.toString();
     }
 
     private void line(Rangeledger ledger, String name, String line) {
@@ -36,6 +54,7 @@ final class Runs {
         String call = line.substring(0, close + 1);
         String rest = line.substring(close + 1).strip();
         String due = rest.substring(1).strip();
+        calls += rest.charAt(0) == '!' ? 3 : 1;
         if (rest.charAt(0) == '!') {
             long before = ledger.digest();
             check(name + ": " + call, answer(ledger, call), "! " + due);
