@@ -469,6 +469,17 @@ public final class AskEdgesTest {
         EDGES.promise(54, "wraps around as a 64-bit integer", Runs.full(0)
             + "tail(0, 0, true) = 0\nhead(1, 99, true) = 1\nviewRow(1) = {}\n"
             + "digest() = " + fullDigest() + "\ndigest() = " + fullDigest() + "\n");
+        EDGES.sentence("X by X is by rising numbers.", """
+            put(2, 50, 9) = NONE
+            put(1, 3, 5) = NONE
+            put(1, 4, 6) = NONE
+            put(0, 3, 7) = NONE
+            # the view 1 is older than the view 0
+            head(1, 3, true) = 0
+            tail(0, 3, true) = 1
+            shut(0) = 2
+            sub(2, 50, true, 50, true) = 0
+            """ + "digest() = " + smallDigest());
     }
 
     /** The digest of an object whose book 0 is full, with a view onto all of it and one that shows nothing, told by hand. */
@@ -487,6 +498,29 @@ public final class AskEdgesTest {
         add(told, 0, 100, 0, 0, -10000, 1, 0, 0, 99, 4950, 49, 50, 50, 51, fullRow().length());
         add(told, 1, 0, 1, -10000, 99, 0, 1, -10000, -10000, 0, -10000, -10000, -10000, -10000, 2);
         add(told, 1);
+        return digest(told);
+    }
+
+    /** The digest of an object with a pair or two in each book and two views, told by hand. */
+    private static long smallDigest() {
+        java.util.ArrayList<Integer> told = new java.util.ArrayList<>();
+        add(told, 2, -10000, 0, -10000, -10000, -10000, 0);
+        add(told, 1, 0, 3, 7, 3, 7, 7, 1, 1);
+        add(told, 3, 7);
+        add(told, 3, 3, -10000, -10000, 7, 7, -10000, -10000, 1, 0, 0);
+        add(told, 2, 1, 4, 6, 3, 5, 11, 2, 0);
+        add(told, 4, 6, 3, 5);
+        add(told, -10000, -10000, 4, 4, -10000, -10000, 6, 6, 0, 1, 0);
+        add(told, 1, 2, 50, 9, 50, 9, 9, 1, 1);
+        add(told, 50, 9);
+        add(told, -10000, 50, 50, -10000, -10000, 9, 9, -10000, 0, 0, 1);
+        add(told, 0, 1, 2, 50, 50, 1, 1, 50, 50, 9, -10000, 50, 50, -10000, "{50=9}".length());
+        add(told, 1, 1, 0, 3, -10000, 1, 0, 3, 3, 7, 3, 3, -10000, -10000, "{3=7}".length());
+        add(told, 1);
+        return digest(told);
+    }
+
+    private static long digest(java.util.ArrayList<Integer> told) {
         long digest = 6007;
         for (int one : told) {
             digest = digest * 31 + one;

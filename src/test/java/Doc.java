@@ -36,6 +36,12 @@ final class Doc {
         return between("## Promise " + number + ":", next).contains(oneLine(words));
     }
 
+    /** The signature of a promise, as it is told below its heading. */
+    static String signature(int number) {
+        String promise = TEXT.substring(TEXT.indexOf("## Promise " + number + ":"));
+        return promise.split("`", 3)[1];
+    }
+
     private static String between(String start, String end) {
         return TEXT.substring(TEXT.indexOf(start), TEXT.indexOf(end));
     }

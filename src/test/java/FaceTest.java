@@ -15,6 +15,7 @@ public final class FaceTest {
 
     public static void main(String[] args) throws IOException {
         face();
+        signatures();
         members();
         source();
         RUNS.end();
@@ -40,6 +41,15 @@ public final class FaceTest {
         }
         RUNS.check("the face", found, due);
         RUNS.check("how many calls the face has", due.size(), 54);
+    }
+
+    /** Word by word, with the parameters' names, which the compiled class does not have. */
+    private static void signatures() throws IOException {
+        String source = Files.readString(Path.of("src/main/java/Rangeledger.java")).replaceAll("\\s+", " ");
+        for (int number = 1; number <= Doc.PROMISES; number++) {
+            String signature = "public " + Doc.signature(number) + " {";
+            RUNS.check("promise " + number + ", " + signature, source.contains(signature), true);
+        }
     }
 
     private static String withoutNames(String signature) {

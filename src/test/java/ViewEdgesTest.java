@@ -158,6 +158,27 @@ public final class ViewEdgesTest {
     }
 
     private static void throughViews() {
+        EDGES.sentence("A VIEW shows the PAIRS of the BOOK whose KEYS are WITHIN, by the ORDER", """
+            sub(1, 6, false, 5, true) = 0
+            viewRow(0) = {}
+            put(1, 3, 30) = NONE
+            put(1, 5, 50) = NONE
+            put(1, 7, 70) = NONE
+            put(1, 2, 20) = NONE
+            put(1, 4, 40) = NONE
+            put(1, 6, 60) = NONE
+            row(1) = {6=60, 4=40, 2=20, 7=70, 5=50, 3=30}
+            viewRow(0) = {4=40, 2=20, 7=70, 5=50}
+            viewGet(0, 6) = NONE
+            viewGet(0, 5) = 50
+            viewGet(0, 3) = NONE
+            tail(2, 1, false) = 1
+            pour(1, 2) = 6
+            row(2) = {4=40, 5=50, 6=60, 7=70, 2=20, 3=30}
+            viewRow(1) = {4=40, 5=50, 6=60, 7=70, 2=20, 3=30}
+            sub(2, 5, true, 2, false) = 2
+            viewRow(2) = {5=50, 6=60, 7=70}
+            """);
         EDGES.sentence("who writes in the BOOK, or through another VIEW, writes in it, too", """
             sub(0, 10, true, 20, true) = 0
             head(0, 20, false) = 1

@@ -14,6 +14,7 @@ public final class WalkEdgesTest {
         broken();
         staysBroken();
         atHand();
+        callsThatTakeFromTheHand();
         atHandTillARefusal();
         keptAndRefused();
         walks();
@@ -230,6 +231,40 @@ public final class WalkEdgesTest {
             step() = NONE
             ledger(3) = NONE
             """);
+    }
+
+    private static void callsThatTakeFromTheHand() {
+        String atHand = """
+            walk(0) = 3
+            step() = 0
+            ledger(3) = 0
+            """;
+        // Each of them such that no key comes or goes: the walk is not broken, but the pair is at hand no more.
+        String[] taking = {
+            "put(0, 0, 10) = 10", "putAbsent(0, 0, 10) = 10", "replace(0, 1, 10) = NONE", "swap(0, 0, 11, 12) = false",
+            "strike(0, 1) = NONE", "strikePair(0, 0, 11) = false", "merge(0, 0, 0) = 10", "grow(0, 0) = 10",
+            "halve(0, 1) = NONE", "twice(0, 98) = 4", "raise(0, 0) = 0", "sift(0, 99) = 0", "strikeValue(0, 11) = false",
+            "pour(1, 0) = 3", "thin(0, 1, true) = 0", "viewPut(0, 1, 1) = OUT", "viewStrike(0, 1) = NONE",
+            "viewMerge(0, 1, 1) = OUT", "viewPoll(0, true) = NONE", "viewClear(0) = 0",
+        };
+        String[] leaving = {
+            "poll(1, false) = NONE", "clear(1) = 0", "pour(0, 2) = 3", "copy(0, 2) = 0", "thin(2, 0, false) = 0",
+            "head(0, 5, true) = 2", "shut(2) = 1", "viewPut(1, 1, 1) = OUT", "viewPoll(1, true) = NONE", "viewClear(1) = 0",
+            "keep(0, true) = 98", "brand(5) = OUT", "knock() = 1", "get(0, 0) = 10", "row(0) = {0=10, 50=20, 98=2}",
+            "same(0, 2) = true", "viewNear(0, 0, 3) = NONE", "isSound() = true", "write(10) = 10",
+            "walk(3) ! IndexOutOfBoundsException",
+        };
+        String start = "put(0, 0, 10) = NONE\nput(0, 50, 20) = NONE\nput(0, 98, 2) = NONE\n"
+            + "sub(0, 1, true, 1, false) = 0\nsub(1, 1, true, 1, false) = 1\n";
+        StringBuilder lines = new StringBuilder(start);
+        for (String call : taking) {
+            lines.append(atHand).append(call).append("\nledger(2) = 0\nledger(3) = NONE\nwrite(1) ! IllegalStateException\n");
+        }
+        lines.append("walk(0) = 3\nstep() = 0\npoll(0, true) = 98\nledger(3) = NONE\n");
+        lines.append("walk(0) = 2\nstep() = 0\nclear(0) = 2\nledger(3) = NONE\n");
+        EDGES.sentence("those under «writing in a book», those under «books with books» (for the BOOK that changes by them), "
+            + "and viewPut(), viewStrike(), viewMerge(), viewPoll(), viewClear() of a VIEW onto it", lines.toString());
+        EDGES.sentence("The PAIR of the last STEP is AT HAND", start + atHand + String.join("\nledger(3) = 0\n", leaving));
     }
 
     private static void atHandTillARefusal() {

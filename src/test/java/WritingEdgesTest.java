@@ -31,6 +31,24 @@ public final class WritingEdgesTest {
             get(0, 0) = -10000
             sub(0, 1, true, 0, true) = -20000
             """);
+        EDGES.sentence("(both are told where nothing is there, or where something is not let within bounds)", """
+            poll(0, false) = NONE
+            near(0, 50, 1) = NONE
+            at(0, 0) = NONE
+            ledger(1) = NONE
+            brand(0) = NONE
+            sub(0, 10, true, 20, true) = 0
+            ofView(0, 6) = NONE
+            viewStrike(0, 9) = NONE
+            viewPut(0, 9, 0) = OUT
+            viewMerge(0, 21, 0) = OUT
+            part(0, 9, true, 20, true) = OUT
+            part(0, 20, true, 10, true) = OUT
+            put(0, 9, 0) = NONE
+            keep(0, true) = 9
+            brand(0) = OUT
+            row(0) = {9=0}
+            """);
         EDGES.sentence("Of several exceptions that apply the one that is named first is thrown", """
             put(0, 0, 4) = NONE
             put(0, 1, 4) = NONE
@@ -167,6 +185,23 @@ public final class WritingEdgesTest {
             sub(1, 99, true, 0, true) = OUT
             sub(2, 64, true, 17, true) = 2
             sub(2, 17, true, 64, true) = OUT
+            """);
+        EDGES.sentence("the ROW of a BOOK has its PAIRS by its ORDER, numbered from 0: that is the PLACE of a PAIR", """
+            put(1, 1, 10) = NONE
+            put(1, 2, 20) = NONE
+            put(1, 3, 30) = NONE
+            put(1, 4, 40) = NONE
+            row(1) = {4=40, 2=20, 3=30, 1=10}
+            at(1, -1) ! IllegalArgumentException
+            at(1, 0) = 4
+            at(1, 1) = 2
+            at(1, 2) = 3
+            at(1, 3) = 1
+            at(1, 4) = NONE
+            place(1, 4) = 0
+            place(1, 2) = 1
+            place(1, 3) = 2
+            place(1, 1) = 3
             """);
         EDGES.sentence("The FIRST PAIR is that at the PLACE 0, the LAST one that at the greatest PLACE.", """
             put(1, 3, 30) = NONE
